@@ -290,9 +290,6 @@ public final class BubbleTorus {
     }
 
     public int alone(int n, int e, int rule, int what) {
-        if (!LoneRing.canBe(n, e) || !within(rule, 0, 2) || !within(what, 0, LoneRing.ANSWERS - 1)) {
-            return NONE;
-        }
         return loneRing.answer(n, e, rule, what);
     }
 
@@ -1549,7 +1546,7 @@ public final class BubbleTorus {
         int stepCount = 0;
         int plainCount = 0;
 
-        static boolean canBe(int n, int e) {
+        private static boolean canBe(int n, int e) {
             return (within(n, 2, 3) && within(e, 1, 3)) || (n == 4 && e == 1);
         }
 

@@ -95,9 +95,12 @@ public final class AgainstModelTest {
     }
   }
 
-  private void run(int steps, int crowd) {
+  private void anyTorus() {
     tell("torus", 2 + any(3), 2 + any(3), 1 + any(any(2) == 0 ? 2 : 4), any(any(2) == 0 ? 1 : 4), any(3), any(3) == 0 ? any(100) : any(4));
     if (any(4) == 0) tell("state", any(1 << 30) * (any(2) * 2 - 1));
+  }
+  private void run(int steps, int crowd) {
+    anyTorus();
     if (crowd == 0) shape();
     for (int i = 0; i < steps; i++) {
       int nodes = x.look(0) * x.look(1);
@@ -109,6 +112,7 @@ public final class AgainstModelTest {
         case 7: for (int k = 0; k < 5; k++) tell("pattern", any(2) + any(2) * 3, any(nodes)); break;
         default: if (any(3) == 0) tell("bound", any(6) - 1); else tell("tick", 1); break;
       }
+      if (any(15) == 0) anyTorus();
       if (any(3) == 0) lookAhead();
       if (any(6) == 0) lookAtAll();
     }

@@ -75,8 +75,32 @@ public final class PromisesTest {
     due("move(-1, 0)", x.move(-1, 0), 0);
     due("link(0, 0)", x.link(0, 0), 0);
     due("torus(2, 2, 4, 3, 0, 0)", x.torus(2, 2, 4, 3, 0, 0), true);
+    allAsAtFirst();
     due("torus(4, 4, 2, 0, 1, 1)", x.torus(4, 4, 2, 0, 1, 1), true);
     due("torus(3, 3, 1, 0, 0, 1)", x.torus(3, 3, 1, 0, 0, 1), true);
+  }
+
+  /** Behind marks, hunger, what was lost and what is on its way a new torus knows nothing of them. */
+  private static void allAsAtFirst() {
+    BubbleTorus x = hungryRing(2);
+    x.tick(5);
+    for (int i = 0; i < 7; i++) x.pattern(4, 0);
+    due("lost ahead", x.look(19) > 0, true);
+    due("MARK ahead", x.look(16), 1);
+    x.torus(3, 3, 2, 1, 2, 8);
+    BubbleTorus y = of(3, 3, 2, 1, 2, 8);
+    for (int what = 0; what < 20; what++) due("look(" + what + ")", x.look(what), y.look(what));
+    for (int r = 0; r < 12; r++) for (int what = 0; what < 11; what++) due("ring", x.ring(r, what), y.ring(r, what));
+    for (int v = 0; v < 9; v++) for (int i = 0; i < 6; i++) {
+      due("node", x.node(v, i), 0);
+      due("hunger", x.hunger(v, i % 4), 0);
+      due("link", x.link(v, i % 4), 0);
+    }
+    due("the first number", x.send(1, 0), 0);
+    int[] door = {1, 0, 0, 0, 1, -1, 0, -1, 0, 0, -1};
+    for (int what = 0; what <= 10; what++) due("packet(0, " + what + ")", x.packet(0, what), door[what]);
+    due("trace(0, 0)", x.trace(0, 0), 1);
+    due("trace(0, 1)", x.trace(0, 1), -1);
   }
 
   private static void send() {
@@ -626,6 +650,18 @@ public final class PromisesTest {
     x.tick(2);
     due("all are", x.through(), 0);
     due("delivered", x.look(8), 3);
+    // a MARK that rested with BOUND 0, though its OWNER is not hungry any more, bars node 1 yet
+    x = hungryRing(2);
+    x.tick(4);
+    x.bound(0);
+    x.tick(10);
+    due("all are delivered", x.look(8), 7);
+    due("BARRED", x.ring(0, 8), 2);
+    sent(x, 1, 2);
+    due("BARRED for good", x.through(), -1);
+    x.bound(5);
+    due("the MARK ends in an idle TICK", x.through(), 3);
+    due("arrives behind it", x.arrives(1, 2), 4);
   }
 
   private static void arrives() {
@@ -695,6 +731,10 @@ public final class PromisesTest {
     x.tick(2);
     schedules(x, 1, 0, 1, 0, 6);
     due("more than 400 states", sent(of(4, 4, 4, 3, 0, 0), 0, 10, 1, 11, 2, 8).schedules(0), -1);
+    // 400 and 401 as PlainModel counts them, too
+    schedules(sent(of(2, 4, 1, 3, 0, 0), 4, 6, 3, 6, 0, 2), 400, 0, 54432, 3, 1);
+    x = sent(of(3, 2, 1, 1, 0, 0), 0, 5, 0, 3, 0, 4);
+    for (int what = 0; what < 5; what++) due("401 states", x.schedules(what), -1);
     barredInSchedules();
   }
   private static void barredInSchedules() {
