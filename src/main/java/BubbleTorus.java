@@ -31,16 +31,15 @@ public final class BubbleTorus {
     private static final int RULE_TWO_PLACES = 1;
     private static final int RULE_CRITICAL = 2;
 
-    private final Grid grid = new Grid();
-    private final Net net = new Net(grid);
-    private final Net thought = new Net(grid);
+    private final Net net = new Net();
+    private final Net thought = new Net();
+    private final Grid grid = net.grid;
     private final Outlook outlook = new Outlook();
     private final Search search = new Search();
     private final LoneRing loneRing = new LoneRing();
     private int drawState = 0;
 
     public BubbleTorus() {
-        grid.lay(3, 3);
         net.begin(2, 1, RULE_TWO_PLACES, 8);
     }
 
@@ -363,10 +362,14 @@ public final class BubbleTorus {
         final int[] nexts = new int[MOST_LINKS];
         final int[] nearer = new int[MOST_NODES * MOST_NODES];
         final int[] escapes = new int[MOST_NODES * MOST_NODES];
-        int columns = 2;
-        int rows = 2;
-        int nodes = 4;
-        int rings = 8;
+        int columns = 3;
+        int rows = 3;
+        int nodes = 9;
+        int rings = 12;
+
+        Grid() {
+            lay(columns, rows);
+        }
 
         void lay(int w, int h) {
             if (!within(w, 2, 4) || !within(h, 2, 4)) {
@@ -387,6 +390,13 @@ public final class BubbleTorus {
                     nearer[v * MOST_NODES + to] = set;
                     escapes[v * MOST_NODES + to] = leastOf(set);
                 }
+            }
+        }
+
+        /** All tables follow from the two sizes. */
+        void copyFrom(Grid other) {
+            if (columns != other.columns || rows != other.rows) {
+                lay(other.columns, other.rows);
             }
         }
 
@@ -960,7 +970,7 @@ public final class BubbleTorus {
 
     /** A torus as it is: it can be copied, and its ticks run, without the one that it was copied from. */
     private static final class Net {
-        final Grid grid;
+        final Grid grid = new Grid();
         final Packets packets = new Packets();
         final Queues queues = new Queues();
         final Moves moves = new Moves();
@@ -973,10 +983,6 @@ public final class BubbleTorus {
         int clock = 0;
         int adaptiveHops = 0;
         int lost = 0;
-
-        Net(Grid grid) {
-            this.grid = grid;
-        }
 
         void begin(int e, int a, int newRule, int bound) {
             escapePlaces = e;
@@ -994,6 +1000,7 @@ public final class BubbleTorus {
         }
 
         void copyFrom(Net other) {
+            grid.copyFrom(other.grid);
             escapePlaces = other.escapePlaces;
             adaptivePlaces = other.adaptivePlaces;
             rule = other.rule;

@@ -650,6 +650,11 @@ public final class PromisesTest {
     x.tick(2);
     due("all are", x.through(), 0);
     due("delivered", x.look(8), 3);
+    due("another shape", sent(of(2, 2, 2, 0, 0, 8), 0, 3).through(), 3);
+    x.torus(4, 2, 2, 0, 0, 8);
+    due("another shape behind a thought", sent(x, 0, 6).through(), 4);
+    x.torus(2, 4, 2, 0, 0, 8);
+    due("and turned round", sent(x, 0, 5).through(), 4);
     // a MARK that rested with BOUND 0, though its OWNER is not hungry any more, bars node 1 yet
     x = hungryRing(2);
     x.tick(4);
