@@ -1438,14 +1438,9 @@ public final class BubbleTorus {
 
         /** Ends a step that has been done: keeps where it leads, and brings the state s back. */
         private void close(Net net, int s, int i, int spot) {
-            int from = spots[i];
             spots[i] = spot;
             steps++;
             reach(net, ways[s]);
-            if (spot != ARRIVED) {
-                net.queues.sizes[spot] = 0;
-            }
-            spots[i] = from;
             open(net, keys[s]);
         }
 
@@ -1483,6 +1478,7 @@ public final class BubbleTorus {
             return key;
         }
 
+        /** Brings a state back: empties the queues where the packets are now, and fills those of the key. */
         private void open(Net net, long key) {
             long rest = key;
             for (int r = MOST_RINGS - 1; r >= 0; r--) {

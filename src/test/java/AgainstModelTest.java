@@ -121,7 +121,7 @@ public final class AgainstModelTest {
   }
 
   public static void main(String[] args) {
-    int many = args.length > 0 ? Integer.parseInt(args[0]) : 40;
+    int many = args.length > 0 ? Integer.parseInt(args[0]) : 90;
     if (args.length > 1) seed = Long.parseLong(args[1]);
     for (int n = 1; n <= 5; n++) for (int e = 0; e <= 4; e++) for (int rule = -1; rule <= 3; rule++) for (int what = -1; what <= 8; what++) {
       new AgainstModelTest().both("alone", n, e, rule, what);

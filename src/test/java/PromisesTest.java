@@ -467,6 +467,25 @@ public final class PromisesTest {
     due("OWNER", x.ring(0, 6), 2);
     due("OWNER", x.ring(1, 6), 5);
     due("look(16)", x.look(16), 3);
+    hungryAnew();
+  }
+  /** A MARK whose OWNER was not hungry for a while, as BOUND was 0, and is again, goes on. */
+  private static void hungryAnew() {
+    BubbleTorus x = hungryRing(2);
+    x.tick(4);
+    x.bound(0);
+    x.tick(10);
+    due("hunger(0, 0)", x.hunger(0, 0), 0);
+    due("MARK", x.ring(0, 7), 1);
+    sent(x, 1, 4, 1, 4, 1, 4, 1, 4, 0, 4, 0, 4);
+    x.tick(1);
+    x.bound(2);
+    x.tick(1);
+    due("hunger(0, 0)", x.hunger(0, 0), 1);
+    due("OWNER", x.ring(0, 6), 0);
+    due("MARK", x.ring(0, 7), 2);
+    due("BARRED", x.ring(0, 8), 6);
+    due("look(15)", x.look(15), 1);
   }
 
   private static void node() {
@@ -483,6 +502,13 @@ public final class PromisesTest {
     x.tick(4);
     due("node(0, 5)", x.node(0, 5), 5);
     due("node(1, 5)", x.node(1, 5), 3);
+    // 0 waits in the door of 3 until 1 has gone through 0 and taken CRITICAL to 3
+    x = sent(of(4, 2, 1, 0, 2, 0), 3, 0, 2, 0);
+    due("tick(4)", x.tick(4), 2);
+    due("node(3, 5)", x.node(3, 5), 2);
+    due("node(3, 4)", x.node(3, 4), 2);
+    due("node(2, 5)", x.node(2, 5), 0);
+    x = new BubbleTorus();
     due("node(0, 6)", x.node(0, 6), -1);
     due("node(0, -1)", x.node(0, -1), -1);
     due("node(9, 0)", x.node(9, 0), -1);
@@ -727,6 +753,13 @@ public final class PromisesTest {
     x = sent(of(4, 2, 1, 0, 2, 0), 2, 0);
     schedules(x, 4, 0, 1, 1, 2);                      // the rings of two nodes have two places
     due("CRITICAL is as it was", x.ring(0, 5), 0);
+    // 1 may enter 0 only when 0 has gone through it and so taken CRITICAL to 3
+    schedules(sent(of(4, 2, 1, 0, 2, 0), 2, 0, 3, 0), 6, 0, 1, 1, 2);
+    // with adaptive lanes 2 to 0 goes by 3 (two lanes) or by 1 (adaptive alone), and ends with CRITICAL in 3, if it
+    // went by escape all the way, else in 0: door, 3 ways into the next node, 3 into 0, two ends
+    schedules(sent(of(4, 2, 1, 1, 2, 0), 2, 0), 9, 0, 4, 1, 2);
+    // 0 to 4 by 1, and 1 to 4: 4 and 3 places, and both orders in the queue of 4; of 10 rows 7 keep the order
+    schedules(sent(of(3, 3, 2, 0, 0, 0), 0, 4, 1, 4), 13, 0, 7, 2, 4);
     // neither can enter: the one place is CRITICAL
     schedules(sent(of(3, 3, 1, 0, 2, 0), 2, 0, 2, 0), 1, 1, 0, 0, 3);
     x = sent(of(3, 3, 2, 0, 0, 0), 0, 1, 3, 4, 6, 7);
