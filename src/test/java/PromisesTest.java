@@ -760,6 +760,8 @@ public final class PromisesTest {
     schedules(sent(of(4, 2, 1, 1, 2, 0), 2, 0), 9, 0, 4, 1, 2);
     // 0 to 4 by 1, and 1 to 4: 4 and 3 places, and both orders in the queue of 4; of 10 rows 7 keep the order
     schedules(sent(of(3, 3, 2, 0, 0, 0), 0, 4, 1, 4), 13, 0, 7, 2, 4);
+    // 0 goes through 1 to 2, and 1 through 0 to 1: 4 by 4 places and both orders in 1; of 20 rows 4 break the order
+    schedules(sent(of(4, 2, 2, 0, 0, 0), 0, 2, 3, 1), 17, 0, 16, 2, 4);
     // neither can enter: the one place is CRITICAL
     schedules(sent(of(3, 3, 1, 0, 2, 0), 2, 0, 2, 0), 1, 1, 0, 0, 3);
     x = sent(of(3, 3, 2, 0, 0, 0), 0, 1, 3, 4, 6, 7);
