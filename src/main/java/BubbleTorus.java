@@ -1357,6 +1357,7 @@ public final class BubbleTorus {
         static final int MOST_STATES = 400;
         static final int MOST_LEFT = 3;
         static final int MODULUS = 1000003;
+        static final int MOST_RING_PLACES = 16;
         static final int ARRIVED = MOST_QUEUES;
 
         final long[] keys = new long[MOST_STATES];
@@ -1377,7 +1378,7 @@ public final class BubbleTorus {
             }
             findLeft(net);
             Arrays.fill(answers, 0);
-            answers[4] = Integer.MAX_VALUE;
+            answers[4] = MOST_RING_PLACES;
             count = 0;
             tooMany = false;
             reach(net, 1);

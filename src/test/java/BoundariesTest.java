@@ -52,28 +52,25 @@ public final class BoundariesTest {
   }
 
   public static void main(String[] args) {
-    Set<String> failing = failing();
+    int broken = 0;
+    for (String name : TESTS.keySet()) if (finds(name)) broken++;
     FAULTS.forEach(System.out::println);
-    System.out.println(TESTS.size() - failing.size() + " boundaries hold, " + failing.size() + " do not");
-    if (!failing.isEmpty()) System.exit(1);
+    System.out.println(TESTS.size() - broken + " boundaries hold, " + broken + " do not");
+    if (broken > 0) System.exit(1);
   }
 
   public static Set<String> names() { return new LinkedHashSet<>(TESTS.keySet()); }
 
-  /** Runs all tests: the names of those that find a fault. */
-  public static Set<String> failing() {
-    Set<String> failing = new LinkedHashSet<>();
-    for (Map.Entry<String, Runnable> t : TESTS.entrySet()) {
-      int before = FAULTS.size();
-      try {
-        t.getValue().run();
-      } catch (RuntimeException | StackOverflowError x) {
-        FAULTS.add("threw " + x);
-      }
-      for (int i = before; i < FAULTS.size(); i++) FAULTS.set(i, "(" + t.getKey() + ") " + FAULTS.get(i));
-      if (FAULTS.size() > before) failing.add(t.getKey());
+  /** Runs one test: whether it finds a fault. */
+  public static boolean finds(String name) {
+    int before = FAULTS.size();
+    try {
+      TESTS.get(name).run();
+    } catch (RuntimeException | StackOverflowError x) {
+      FAULTS.add("threw " + x);
     }
-    return failing;
+    for (int i = before; i < FAULTS.size(); i++) FAULTS.set(i, "(" + name + ") " + FAULTS.get(i));
+    return FAULTS.size() > before;
   }
 
   // ---- how the tests are told
@@ -90,6 +87,14 @@ public final class BoundariesTest {
     FAULTS.add("line " + line + ": answered " + got + ", due is " + want);
   }
   private static void is(boolean got, boolean want) { is(got ? 1 : 0, want ? 1 : 0); }
+  /** Asked of the class that runs: javac writes a constant's value into the classes that use it. */
+  private static int constant(String name) {
+    try {
+      return BubbleTorus.class.getField(name).getInt(null);
+    } catch (ReflectiveOperationException x) {
+      throw new IllegalStateException(x);
+    }
+  }
   private static void none(long... got) { for (long g : got) is(g, NONE); }
 
   private static BubbleTorus of(int w, int h, int e, int a, int rule, int bound) {
@@ -179,6 +184,8 @@ public final class BoundariesTest {
     for (int i = 0; i < 15; i++) { is(x.pattern(3, 0), 16); x.tick(1); }
     return x;
   }
+  /** With RULE 2 and E 1, 0 may enter node 0 in TICK 2 only, as 1 has CONTINUED into CRITICAL there and is DELIVERED. */
+  private static BubbleTorus lateAtDoor() { return ticked(sent(of(4, 2, 1, 0, 2, 0), 3, 0, 2, 0), 4); }
   /** Row 0 of 4 by 2, all delivered; node 1 is BARRED in it for good, as BOUND is 0 and the MARK rests. */
   private static BubbleTorus barredForGood() {
     BubbleTorus x = sentTimes(of(4, 2, 2, 1, 0, 1), 3, 0, 1);
@@ -213,7 +220,7 @@ public final class BoundariesTest {
       none(x.packet(0, 0));
       is(x.send(5, 4), 0);
     });
-    test("1: NONE is -1", () -> is(BubbleTorus.NONE, -1));
+    test("1: NONE is -1", () -> is(constant("NONE"), -1));
   }
 
   // ---- promise 2
@@ -271,6 +278,21 @@ public final class BoundariesTest {
           () -> stated(of(3, 3, 2, 1, 2, 1), busy().look(17)));
       same(() -> { BubbleTorus x = busy(); x.torus(4, 4, 4, 3, 2, 9); return x; },
           () -> stated(of(4, 4, 4, 3, 2, 9), busy().look(17)));
+    });
+    test("2: nothing stays of packets that came late or OUT OF ORDER", () -> {
+      same(() -> { BubbleTorus x = crossing(); x.torus(3, 3, 2, 1, 0, 0); return x; }, () -> of(3, 3, 2, 1, 0, 0));
+      same(() -> { BubbleTorus x = lateAtDoor(); x.torus(4, 2, 1, 0, 2, 0); return x; }, () -> of(4, 2, 1, 0, 2, 0));
+    });
+    test("2: what is SENT behind a TORUS is as the first ones", () -> {
+      for (int t = 0; t < 4; t++) {
+        int ticks = t;
+        same(() -> { BubbleTorus x = busy(); x.torus(3, 3, 2, 0, 0, 0); x.pattern(4, 4); if (ticks > 0) x.tick(ticks); return x; },
+            () -> { BubbleTorus x = stated(of(3, 3, 2, 0, 0, 0), busy().look(17)); x.pattern(4, 4); if (ticks > 0) x.tick(ticks); return x; });
+      }
+      same(() -> { BubbleTorus x = crossing(); x.torus(3, 3, 2, 1, 0, 0); return sent(x, 0, 5, 0, 5, 1, 2); },
+          () -> sent(of(3, 3, 2, 1, 0, 0), 0, 5, 0, 5, 1, 2));
+      same(() -> { BubbleTorus x = lateAtDoor(); x.torus(4, 2, 1, 1, 0, 0); return sent(x, 0, 2, 1, 3); },
+          () -> sent(of(4, 2, 1, 1, 0, 0), 0, 2, 1, 3));
     });
     test("2: STATE stays", () -> {
       BubbleTorus x = stated(new BubbleTorus(), LEAST);
@@ -583,6 +605,12 @@ public final class BoundariesTest {
       is(x.move(0, 1), 0);
       is(x.move(1, 1), 3);
     });
+    test("6: the greatest TORUS, with MARKS in all its RINGS", () -> {
+      BubbleTorus x = of(4, 4, 4, 3, 2, 1);
+      for (int i = 0; i < 6; i++) is(x.pattern(0, 0), 16);
+      is(x.tick(100), 96);
+      for (int r = 0; r < 16; r++) none(x.ring(r, 6));
+    });
     test("6: TICK is one more by each", () -> {
       BubbleTorus x = new BubbleTorus();
       for (int i = 0; i < 5; i++) { is(x.look(6), 101 * i); x.tick(100); x.tick(1); }
@@ -813,6 +841,7 @@ public final class BoundariesTest {
       BubbleTorus x = ticked(sent(of(4, 2, 1, 0, 0, 0), 2, 0), 2);
       none(x.ring(0, 5));
       is(x.enters(2, 0), 1);
+      is(of(4, 2, 1, 0, 0, 0).enters(3, 0), 1);
     });
   }
 
@@ -1068,8 +1097,8 @@ public final class BoundariesTest {
       is(x.ring(0, 10), 4);
     });
     test("15: the fewest free places are those at the end of a TICK", () -> {
-      // 0 is in node 2 and turns to 6; in the same TICK, but ahead of it, 1 enters the RING by node 0
-      BubbleTorus x = ticked(sent(of(4, 2, 2, 0, 0, 0), 0, 6), 8);
+      // TICK 11 begins with node 3: the second one enters by node 0 ahead of the first one, that turns in node 2
+      BubbleTorus x = ticked(sent(of(4, 2, 2, 0, 0, 0), 0, 6), 9);
       is(x.look(8), 1);
       is(x.ring(0, 10), 7);
       sent(x, 0, 6);
@@ -1160,6 +1189,10 @@ public final class BoundariesTest {
       x.tick(1);
       is(x.hunger(1, 2), 0);
     });
+    test("17: what came by ESCAPE of another DIRECTION is hungry", () -> {
+      BubbleTorus x = sent(of(3, 3, 1, 0, 2, 0), 6, 1);                    // it turns in 7, but CRITICAL is in 1
+      for (int t = 1; t <= 5; t++) { x.tick(1); is(x.packet(0, 4), 7); is(x.hunger(7, 2), t); is(x.hunger(7, 0), 0); }
+    });
     test("17: of a RING of two both DIRECTIONS count for themselves", () -> {
       BubbleTorus x = ticked(hungryForGood(0), 3);
       is(x.hunger(1, 0), 3);
@@ -1211,6 +1244,23 @@ public final class BoundariesTest {
         is(x.ring(0, 7), at[t]);
         is(x.ring(0, 8), barred[t]);
       }
+      is(x.look(15), 1);
+    });
+    test("15: a MARK goes round in a RING of two", () -> {
+      BubbleTorus x = hungryForGood(1);
+      int[] at = {1, 0, 1, 0}, barred = {0, 1, 1, 1};
+      for (int t = 0; t < 4; t++) { x.tick(1); is(x.ring(0, 6), 1); is(x.ring(0, 7), at[t]); is(x.ring(0, 8), barred[t]); }
+    });
+    test("15: a MARK that rested goes on with a BOUND again", () -> {
+      BubbleTorus x = ticked(hungry(1), 2);
+      x.bound(0);
+      x.tick(1);
+      is(x.ring(0, 7), 1);
+      x.bound(99);
+      x.tick(1);
+      is(x.ring(0, 6), 0);
+      is(x.ring(0, 7), 2);
+      is(x.ring(0, 8), 6);
       is(x.look(15), 1);
     });
     test("15: a MARK of DIRECTION 1 goes by 1", () -> {
@@ -1269,6 +1319,11 @@ public final class BoundariesTest {
       is(x.ring(0, 6), 0);
       is(x.look(15), 1);
     });
+    test("15: the OWNER is a NODE of the RING", () -> {
+      BubbleTorus x = ticked(sentTimes(of(3, 3, 2, 1, 0, 1), 6, 3, 4), 1);
+      is(x.ring(1, 6), 3);
+      for (int r = 0; r < 12; r++) if (r != 1) none(x.ring(r, 6));
+    });
     test("15: RINGS have MARKS each for itself", () -> {
       BubbleTorus x = ticked(sentTimes(hungry(1), 6, 3, 4), 2);
       is(x.ring(0, 6), 0);
@@ -1305,12 +1360,29 @@ public final class BoundariesTest {
       is(x.hunger(0, 0), 1);
       is(x.node(0, 4), 5);
     });
+    test("18: the most HUNGER is 999 at most", () -> {
+      BubbleTorus x = hungryForGood(0);
+      for (int i = 0; i < 11; i++) x.tick(100);
+      is(x.node(1, 4), 999);
+    });
     test("18: the most TICKS in the DOOR are of those that left", () -> {
       BubbleTorus x = ticked(hungryForGood(0), 50);
       is(x.node(1, 0), 1);
       is(x.node(1, 5), 0);
     });
     test("18: the most TICKS in the DOOR are 0 if it leaves at once", () -> { BubbleTorus x = ticked(new BubbleTorus(), 7); sent(x, 0, 1); x.tick(2); is(x.node(0, 5), 0); });
+    test("18: the most TICKS in the DOOR are of its own packets", () -> {
+      BubbleTorus x = ticked(sent(hungry(0), 3, 4), 6);
+      is(x.node(0, 5), 5);
+      is(x.node(3, 5), 0);
+      is(x.node(1, 5), 0);
+    });
+    test("18: the most TICKS in the DOOR are those of PACKET 0, too", () -> {
+      BubbleTorus x = lateAtDoor();
+      is(x.packet(0, 10), 2);
+      is(x.node(3, 5), 2);
+      is(x.node(2, 5), 0);
+    });
     test("18: the most TICKS in the DOOR are TICK less BORN", () -> {
       BubbleTorus x = ticked(new BubbleTorus(), 9);
       sentTimes(x, 4, 0, 1);
@@ -1446,6 +1518,13 @@ public final class BoundariesTest {
       int[] value = {1, 2, 3}, many = {2, 1, 1};
       for (int i = 0; i < 3; i++) { is(x.lates(i, 0), value[i]); is(x.lates(i, 1), many[i]); }
     });
+    test("24: a single LATE, of PACKET 0", () -> {
+      BubbleTorus x = ticked(sent(new BubbleTorus(), 0, 1), 2);
+      is(x.lates(NONE, 0), 1);
+      is(x.lates(0, 0), 1);
+      is(x.lates(0, 1), 1);
+      none(x.lates(1, 0), x.lates(1, 1));
+    });
     test("24: i of as many as there are is none", () -> { none(late().lates(3, 0), late().lates(3, 1), late().lates(MOST, 0), new BubbleTorus().lates(0, 0)); });
     test("24: i -2 is none", () -> none(late().lates(-2, 0), late().lates(-2, 1), late().lates(LEAST, 0)));
     test("24: what -1 can't be", () -> none(late().lates(0, -1), late().lates(NONE, -1), late().lates(0, LEAST)));
@@ -1501,10 +1580,37 @@ public final class BoundariesTest {
       x.tick(1);
       is(x.goesOn(1), 0);
     });
+    test("25: any first one of the RING, that in its least NODE, too", () -> {
+      BubbleTorus x = ticked(sent(of(4, 2, 1, 0, 0, 0), 3, 0, 3, 0), 1);   // 0 fills node 0, its TO
+      is(x.enters(3, 0), 0);
+      is(x.goesOn(1), 1);
+      x = ticked(sent(of(4, 2, 1, 0, 0, 0), 2, 3, 2, 3), 1);               // and in the last one
+      is(x.enters(2, 0), 0);
+      is(x.goesOn(1), 1);
+    });
+    test("25: again and again, however long the row is", () -> {
+      // E 1: 2 is in node 3, its TO; 1 waits for that in node 2, 0 for 1 in node 1, 3 in the door for 0
+      BubbleTorus x = ticked(sent(of(4, 2, 1, 0, 0, 0), 0, 2, 1, 3, 2, 3), 1);
+      sent(x, 0, 1);
+      for (int p = 0; p < 3; p++) is(x.packet(p, 4), p + 1);
+      for (int p = 0; p < 4; p++) is(x.goesOn(p), 1);
+      is(x.stuck(), 0);
+    });
+    test("25: an empty queue has no first one that CAN GO ON", () -> {
+      BubbleTorus x = hungryForGood(0);                                    // all other queues are empty
+      is(x.goesOn(0), 0);
+      is(x.dead(), 1);
+    });
     test("26: nothing is STUCK in an empty TORUS", () -> is(new BubbleTorus().stuck(), 0));
     test("26: nothing is STUCK while all go", () -> is(sent(new BubbleTorus(), 0, 1, 0, 2, 3, 4).stuck(), 0));
     test("26: those behind are STUCK, too", () -> { BubbleTorus x = hungryForGood(0); is(x.stuck(), 1); sent(x, 1, 3, 1, 3); is(x.stuck(), 3); });
     test("26: a full DOOR of STUCK ones", () -> { BubbleTorus x = sentTimes(hungryForGood(0), 5, 1, 0); is(x.stuck(), 6); });
+    test("26: those in the first DOOR and in the last queue are STUCK, too", () -> {
+      is(sent(ticked(circle(), 1), 0, 1).stuck(), 5);
+      BubbleTorus x = ticked(sent(of(2, 4, 1, 0, 2, 0), 7, 1), 1);         // by 2 to 1, where CRITICAL is
+      is(x.node(7, 0), 1);
+      is(x.stuck(), 1);
+    });
     test("26: DELIVERED ones are not STUCK", () -> { BubbleTorus x = ticked(sent(hungryForGood(0), 2, 0), 5); is(x.look(8), 0); is(ticked(sent(hungryForGood(0), 0, 2), 5).stuck(), 1); });
     test("27: without packets it is not DEAD", () -> { is(new BubbleTorus().dead(), 0); is(ticked(sent(new BubbleTorus(), 0, 1), 2).dead(), 0); });
     test("27: DEAD if none of the first ones CAN GO ON", () -> { is(hungryForGood(0).dead(), 1); is(ticked(circle(), 1).dead(), 1); });
@@ -1518,7 +1624,7 @@ public final class BoundariesTest {
     test("28: 0 if nothing is on its way", () -> { is(new BubbleTorus().through(), 0); is(ticked(sent(new BubbleTorus(), 0, 1), 2).through(), 0); });
     test("28: to the TICK in which the last one is DELIVERED", () -> { is(sent(new BubbleTorus(), 0, 1).through(), 2); is(ticked(sent(new BubbleTorus(), 0, 1), 1).through(), 1); is(sentTimes(new BubbleTorus(), 6, 0, 1).through(), 7); });
     test("28: NONE if they are not DELIVERED", () -> { none(hungryForGood(0).through(), hungryForGood(1).through(), circle().through()); });
-    test("28: NONE though others are DELIVERED", () -> none(sent(hungryForGood(0), 0, 1, 2, 0).through()));
+    test("28: NONE though others are DELIVERED", () -> none(sent(hungryForGood(0), 0, 1, 2, 3).through()));
     test("28: a MARK that ends in an idle TICK lets go", () -> {
       BubbleTorus x = sent(barredWithoutAdaptive(), 1, 2);
       none(x.through());
@@ -1591,6 +1697,19 @@ public final class BoundariesTest {
     test("31: what 5 can't be", () -> none(new BubbleTorus().schedules(5), new BubbleTorus().schedules(MOST)));
     // 6 STATES and 5 STEPS each, no queue in common: 6 * 6 * 6, 15! / 5! 5! 5!; more rows there can hardly be
     test("31: rows are counted up to 1000003", () -> found(sent(of(4, 4, 1, 0, 0, 0), 0, 10, 5, 15, 10, 0), 216, 0, 756756, 3, 3));
+    test("31: behind too many STATES the next ones answer for themselves", () -> {
+      BubbleTorus x = sent(of(4, 4, 4, 3, 0, 0), 0, 10, 1, 11, 2, 8);
+      none(x.schedules(0));
+      x.tick(20);
+      found(x, 1, 0, 1, 0, 16);
+      found(sent(x, 0, 1), 4, 0, 2, 1, 15);
+    });
+    test("31: of what came by another DIRECTION", () -> {
+      BubbleTorus x = ticked(sent(of(3, 3, 2, 0, 0, 0), 0, 5), 1);         // by 1 to 2, then by 2
+      is(x.packet(0, 5), 1);
+      found(x, 3, 0, 1, 1, 5);
+      found(ticked(sent(of(3, 3, 2, 1, 0, 0), 4, 1), 1), 2, 0, 1, 0, 6);   // by 3, in ADAPTIVE
+    });
     test("31: a STATE with packets and no STEP", () -> { found(hungryForGood(0), 1, 1, 0, 0, 2); found(sent(hungryForGood(0), 0, 1), 3, 1, 0, 1, 1); });
     test("31: nobody is BARRED", () -> {
       BubbleTorus x = sent(barredWithoutAdaptive(), 1, 2);
@@ -1611,7 +1730,11 @@ public final class BoundariesTest {
       is(sentTimes(of(3, 3, 2, 0, 2, 0), 2, 2, 0).schedules(3), 1);
     });
     test("31: the order within queues is of the STATE", () -> found(sent(of(3, 3, 2, 0, 0, 0), 0, 4, 1, 4), 13, 0, 7, 2, 4));
-    test("31: where CRITICAL is is of the STATE", () -> found(sent(of(4, 2, 1, 1, 2, 0), 2, 0), 9, 0, 4, 1, 2));
+    test("31: the order within queues is of the STATE, whose ways part, too", () -> found(sent(of(4, 2, 2, 0, 0, 0), 0, 2, 1, 3), 17, 0, 16, 2, 4));
+    test("31: where CRITICAL is is of the STATE", () -> {
+      found(sent(of(4, 2, 1, 1, 2, 0), 2, 0), 9, 0, 4, 1, 2);
+      found(sent(of(2, 4, 1, 1, 2, 0), 4, 0), 9, 0, 4, 1, 2);              // in a column
+    });
     test("31: the fewest free places of any RING are 0 if one is full", () -> is(sent(of(2, 2, 1, 0, 0, 0), 0, 1, 1, 0).schedules(4), 0));
     test("31: in THOUGHT alone", () ->
       same(() -> { BubbleTorus x = sent(of(4, 2, 1, 1, 2, 0), 2, 0, 1, 6, 3, 0); for (int k = 0; k < 5; k++) x.schedules(k); return x; },
@@ -1664,6 +1787,15 @@ public final class BoundariesTest {
     });
     test("32: the empty STATE is not DEAD", () -> { is(new BubbleTorus().alone(2, 1, 1, 0), 1); is(new BubbleTorus().alone(2, 1, 1, 2), 0); });
     test("32: STARVING needs an endless row", () -> { is(new BubbleTorus().alone(2, 1, 1, 6), 0); is(new BubbleTorus().alone(2, 1, 0, 6), 1); });
+    test("32: others may ENTER while it is STARVING", () -> is(new BubbleTorus().alone(2, 1, 0, 6), 1));
+    test("32: no ENTERING is in a WAIT", () -> { is(new BubbleTorus().alone(2, 1, 0, 7), 2); is(new BubbleTorus().alone(3, 1, 0, 7), 4); });
+    test("32: WAIT ends as it is let ENTER", () -> is(new BubbleTorus().alone(2, 3, 0, 7), 4));   // 3 leave NODE 1, one leaves 0
+    test("32: each that can be, asked one behind the other", () -> {
+      BubbleTorus x = new BubbleTorus();
+      for (int turn = 0; turn < 2; turn++) for (int n = 2; n <= 4; n++) for (int e = 1; e <= (n == 4 ? 1 : 3); e++) for (int rule = 0; rule < 3; rule++) {
+        for (int what = 0; what < 8; what++) is(x.alone(n, e, rule, what), new BubbleTorus().alone(n, e, rule, what));
+      }
+    });
     test("32: asked by turns each answers for itself", () -> {
       BubbleTorus x = new BubbleTorus();
       is(x.alone(3, 3, 2, 0), 4725);
@@ -1698,6 +1830,7 @@ public final class BoundariesTest {
       is(x.look(13), 3);
       is(x.look(14), 0);
     });
+    test("33: LATE of all together", () -> is(late().look(12), 7));
     test("33: by ADAPTIVE is of HOPS", () -> { BubbleTorus x = ticked(sent(of(4, 4, 2, 1, 0, 0), 0, 10), 9); is(x.look(13), 4); is(x.look(14), 4); });
     test("33: OUT OF ORDER of all together", () -> is(crossing().look(18), 1));
     test("33: the 512th call answers as any other", () -> {

@@ -32,6 +32,10 @@ public final class LanguageTest {
       if (line.length() > 120) fault("a long line: " + line);
       if (line.startsWith("import ") && !line.equals("import java.util.Arrays;")) fault(line);
     }
+    Set<String> library = Set.of("Arrays.fill", "Math.abs", "Math.max", "Math.min", "System.arraycopy");
+    for (Matcher m = Pattern.compile("\\b(?:Integer|Long|System|Arrays|Math|String|List)\\.\\w+").matcher(code); m.find(); ) {
+      if (!library.contains(m.group())) fault("the library's " + m.group());
+    }
     Matcher static1 = Pattern.compile("\\bstatic (?!final\\b)\\w+(\\[\\])? \\w+\\s*[=;]").matcher(code);
     if (static1.find()) fault("a static that is not final: " + static1.group());
     int classes = 0;
