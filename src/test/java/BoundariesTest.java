@@ -1735,6 +1735,8 @@ public final class BoundariesTest {
       found(sent(of(4, 2, 1, 1, 2, 0), 2, 0), 9, 0, 4, 1, 2);
       found(sent(of(2, 4, 1, 1, 2, 0), 4, 0), 9, 0, 4, 1, 2);              // in a column
     });
+    test("31: where CRITICAL went counts in the next STATES", () ->
+      found(sent(of(4, 2, 1, 0, 2, 0), 2, 0, 2, 3), 4, 1, 0, 1, 2));       // 0 leaves CRITICAL in 3, for good: 1 may not enter there
     test("31: the fewest free places of any RING are 0 if one is full", () -> is(sent(of(2, 2, 1, 0, 0, 0), 0, 1, 1, 0).schedules(4), 0));
     test("31: in THOUGHT alone", () ->
       same(() -> { BubbleTorus x = sent(of(4, 2, 1, 1, 2, 0), 2, 0, 1, 6, 3, 0); for (int k = 0; k < 5; k++) x.schedules(k); return x; },
@@ -1790,6 +1792,19 @@ public final class BoundariesTest {
     test("32: others may ENTER while it is STARVING", () -> is(new BubbleTorus().alone(2, 1, 0, 6), 1));
     test("32: no ENTERING is in a WAIT", () -> { is(new BubbleTorus().alone(2, 1, 0, 7), 2); is(new BubbleTorus().alone(3, 1, 0, 7), 4); });
     test("32: WAIT ends as it is let ENTER", () -> is(new BubbleTorus().alone(2, 3, 0, 7), 4));   // 3 leave NODE 1, one leaves 0
+    // counted by PlainModel, too; those of E 1 and of N 2 by hand
+    test("32: all that can be", () -> {
+      int[][] due = {
+        {2, 1, 0, 4, 1, 0, -1, 2, 2, 1, 2}, {2, 1, 1, 1, 0, 0, -1, 0, 1, 0, 0}, {2, 1, 2, 2, 0, 0, -1, 1, 2, 1, 1},
+        {2, 2, 0, 9, 1, 0, -1, 4, 3, 1, 3}, {2, 2, 1, 4, 0, 0, -1, 2, 2, 1, 2}, {2, 2, 2, 6, 0, 0, -1, 3, 3, 1, 3},
+        {2, 3, 0, 16, 1, 0, -1, 6, 4, 1, 4}, {2, 3, 1, 9, 0, 0, -1, 4, 3, 1, 3}, {2, 3, 2, 12, 0, 0, -1, 5, 4, 1, 4},
+        {3, 1, 0, 27, 8, 1, 3, 3, 18, 1, 4}, {3, 1, 1, 1, 0, 0, -1, 0, 1, 0, 0}, {3, 1, 2, 27, 0, 0, -1, 2, 21, 1, 4},
+        {3, 2, 0, 343, 64, 8, 6, 6, 196, 1, 7}, {3, 2, 1, 117, 0, 0, -1, 5, 92, 1, 8}, {3, 2, 2, 441, 0, 0, -1, 5, 266, 1, 10},
+        {3, 3, 0, 3375, 512, 64, 9, 9, 1800, 1, 10}, {3, 3, 1, 1267, 0, 0, -1, 8, 904, 1, 13}, {3, 3, 2, 4725, 0, 0, -1, 8, 2580, 1, 15},
+        {4, 1, 0, 256, 81, 16, 4, 4, 192, 1, 7}, {4, 1, 1, 1, 0, 0, -1, 0, 1, 0, 0}, {4, 1, 2, 256, 0, 0, -1, 3, 208, 1, 9}
+      };
+      for (int[] a : due) for (int what = 0; what < 8; what++) is(new BubbleTorus().alone(a[0], a[1], a[2], what), a[3 + what]);
+    });
     test("32: each that can be, asked one behind the other", () -> {
       BubbleTorus x = new BubbleTorus();
       for (int turn = 0; turn < 2; turn++) for (int n = 2; n <= 4; n++) for (int e = 1; e <= (n == 4 ? 1 : 3); e++) for (int rule = 0; rule < 3; rule++) {

@@ -621,6 +621,7 @@ final class Mutants {
     breaks("31: the order within queues is of the STATE, whose ways part, too").by("private void open(Net net", "places[i] = (int) (rest & 3);", "places[i] = (int) (rest & 2);");
     breaks("31: where CRITICAL is is of the STATE").by("int placeInRing(", "d < 2", "d < 3");
     breaks("31: where CRITICAL is is of the STATE").by("private long keyOf(", "place = net.grid.placeInRing(net.rings.critical[r], net.grid.ringDirection(r));", "place = 0;");
+    breaks("31: where CRITICAL went counts in the next STATES").by("private void open(Net net", "net.grid.ringNode(r, (int) (rest & 3))", "net.grid.ringNode(r, (int) (rest & 2))");
     breaks("31: the fewest free places of any RING are 0 if one is full").by("private void weigh(Net", "net.freeIn(r)", "Math.max(1, net.freeIn(r))");
     breaks("31: in THOUGHT alone").by(what, "search.run(thought)", "search.run(net)");
   }
@@ -655,6 +656,8 @@ final class Mutants {
     breaks("32: others may ENTER while it is STARVING").by("private boolean leadsOn(", "k < stepCount", "k < plainCount");
     breaks("32: no ENTERING is in a WAIT").by("private int waitIn(", "k < plainCount", "k < stepCount");
     breaks("32: WAIT ends as it is let ENTER").by("private int waitIn(", "if (!ruleLets(0))", "if (s >= 0)");
+    breaks("32: all that can be").by("private boolean ruleLets(int v)", "critical == v", "critical == 0");
+    breaks("32: all that can be").by("private int longestWait(", "turn <= MOST_STATES", "turn < 1");
     for (String which : new String[] {"((n - 2) + 3 + e - 1) * 3 + aRule", "((n - 2) * 3 + e - 1) + 3 + aRule", "((n - 2) * 3 + e - 1) * 2 + aRule"}) {
       breaks("32: each that can be, asked one behind the other").by(answer, "((n - 2) * 3 + e - 1) * 3 + aRule", which);
     }
