@@ -41,9 +41,20 @@ public final class LanguageTest {
     int classes = 0;
     for (Matcher m = Pattern.compile("\\b(class|interface|enum) \\w+").matcher(code); m.find(); ) classes++;
     if (classes > 12) fault(classes + " classes");
+    made(code);
     methods(code);
     System.out.println(wrong == 0 ? "the language is kept" : wrong + " faults");
     if (wrong != 0) System.exit(1);
+  }
+
+  /** Rows and objects are made as a field begins, or once by the one method that says so: a run has one room. */
+  private static void made(String code) {
+    Pattern field = Pattern.compile("^ {4,8}(private )?final \\w+(\\[\\])? \\w+ = new \\w+(\\(\\)|\\[[^\\]]+\\]);$");
+    Pattern once = Pattern.compile("^ +(order|notes) = new int\\[MOST_STATES\\];$");
+    for (String line : code.split("\n")) {
+      if (!Pattern.compile("\\bnew\\b").matcher(line).find()) continue;
+      if (!field.matcher(line).find() && !once.matcher(line).find()) fault("made anew: " + line.trim());
+    }
   }
 
   private static void methods(String code) {
